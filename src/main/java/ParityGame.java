@@ -122,7 +122,8 @@ public final class ParityGame {
             return false;
         }
         int forced = 1 << b;
-        // Each round adds a position or is the last that could, so eight rounds are enough.
+        // At most seven positions can be added, and a round that adds none is followed by no
+        // other that does, so eight rounds are enough.
         for (int round = 0; round < POSITIONS; round++) {
             for (int p = 0; p < POSITIONS; p++) {
                 if (isForcedInto(forced, p)) {
@@ -206,7 +207,7 @@ public final class ParityGame {
                 lost |= onRoundTrip(colour);
             }
         }
-        return ALL_POSITIONS & ~lost & ~reaching(lost);
+        return ALL_POSITIONS & ~reaching(lost);
     }
 
     /** The first steps of all plays that keep to the plan. */

@@ -1,8 +1,6 @@
 /** Promises 6 to 12: the calls that only answer, on games small enough to think through. */
 final class AnswersTest {
     private static final Checks checks = new Checks();
-    private static final int[] NOT_POSITIONS = {-1, 8, 9, 32, 40, -8, Integer.MAX_VALUE, Integer.MIN_VALUE};
-    private static final int[] NOT_PLAYERS = {-1, 2, 3, 256, Integer.MAX_VALUE, Integer.MIN_VALUE};
 
     public static void main(String[] args) {
         greatestColourDecides();
@@ -21,10 +19,6 @@ final class AnswersTest {
         checks.end();
     }
 
-    private static int both(int first, int second) {
-        return first | second << 3;
-    }
-
     private static void checkWinners(String what, ParityGame game, int region) {
         checks.same(what + ": region", game.region(), region);
         for (int p = 0; p < 8; p++) {
@@ -40,7 +34,7 @@ final class AnswersTest {
                 for (int p = 0; p < 8; p++) {
                     int next = (p + 1) % 8;
                     int low = greatest == 0 ? 0 : greatest - 1;
-                    game.set(p, p % 2, p == at ? greatest : low, both(next, next));
+                    game.set(p, p % 2, p == at ? greatest : low, Inputs.both(next, next));
                 }
                 checkWinners("ring of " + greatest, game, greatest % 2 == 0 ? 255 : 0);
                 checks.same("ring: plans(0)", game.plans(0), 256);
@@ -55,9 +49,9 @@ final class AnswersTest {
         for (int last = 0; last < 6; last++) {
             ParityGame game = new ParityGame();
             for (int p = 0; p < 7; p++) {
-                game.set(p, 1 - last % 2, 5 - last % 2, both(p + 1, p + 1));
+                game.set(p, 1 - last % 2, 5 - last % 2, Inputs.both(p + 1, p + 1));
             }
-            game.set(7, 0, last, both(7, 7));
+            game.set(7, 0, last, Inputs.both(7, 7));
             checkWinners("path to " + last, game, last % 2 == 0 ? 255 : 0);
         }
     }
@@ -68,8 +62,8 @@ final class AnswersTest {
      */
     private static ParityGame stayOrGo() {
         ParityGame game = new ParityGame();
-        game.set(0, 0, 1, both(0, 1));
-        game.set(1, 1, 2, both(0, 1));
+        game.set(0, 0, 1, Inputs.both(0, 1));
+        game.set(1, 1, 2, Inputs.both(0, 1));
         return game;
     }
 
@@ -89,10 +83,10 @@ final class AnswersTest {
     /** Player 0 at 0 could win only if player 1 at 1 were kind. */
     private static void lettingGoIsNotWinning() {
         ParityGame game = new ParityGame();
-        game.set(0, 0, 5, both(1, 1));
-        game.set(1, 1, 0, both(2, 3));
-        game.set(2, 1, 4, both(2, 2));
-        game.set(3, 1, 5, both(3, 3));
+        game.set(0, 0, 5, Inputs.both(1, 1));
+        game.set(1, 1, 0, Inputs.both(2, 3));
+        game.set(2, 1, 4, Inputs.both(2, 2));
+        game.set(3, 1, 5, Inputs.both(3, 3));
         checkWinners("kind", game, 255 & ~11);
         game.hand(1);
         checkWinners("own choice", game, 255 & ~8);
@@ -100,7 +94,7 @@ final class AnswersTest {
 
     private static void winnerRefuses() {
         ParityGame game = stayOrGo();
-        for (int position : NOT_POSITIONS) {
+        for (int position : Inputs.NOT_POSITIONS) {
             checks.same("winner(" + position + ")", game.winner(position), -1);
         }
     }
@@ -111,12 +105,12 @@ final class AnswersTest {
      */
     private static ParityGame crossing() {
         ParityGame game = new ParityGame();
-        game.set(0, 0, 0, both(2, 3));
-        game.set(1, 0, 0, both(3, 2));
-        game.set(2, 0, 1, both(2, 2));
-        game.set(3, 0, 2, both(3, 3));
-        game.set(4, 1, 0, both(3, 2));
-        game.set(5, 1, 0, both(2, 3));
+        game.set(0, 0, 0, Inputs.both(2, 3));
+        game.set(1, 0, 0, Inputs.both(3, 2));
+        game.set(2, 0, 1, Inputs.both(2, 2));
+        game.set(3, 0, 2, Inputs.both(3, 3));
+        game.set(4, 1, 0, Inputs.both(3, 2));
+        game.set(5, 1, 0, Inputs.both(2, 3));
         return game;
     }
 
@@ -137,7 +131,7 @@ final class AnswersTest {
     private static void fewPlansOrAllPlans() {
         ParityGame game = new ParityGame();
         for (int p = 0; p < 8; p++) {
-            game.set(p, 0, p == 7 ? 2 : 1, both(p == 7 ? 0 : p, p == 7 ? 7 : p + 1));
+            game.set(p, 0, p == 7 ? 2 : 1, Inputs.both(p == 7 ? 0 : p, p == 7 ? 7 : p + 1));
         }
         checkWinners("stairs", game, 255);
         checks.same("stairs: firstPlan(0)", game.firstPlan(0), 127);
@@ -151,6 +145,18 @@ final class AnswersTest {
         checks.same("nothing won: plans(0)", game.plans(0), 256);
         checks.same("nothing won: firstPlan(0)", game.firstPlan(0), 0);
         checks.same("nothing won: good(0, 77)", game.good(0, 77), true);
+        onlyTheFirstPlan();
+    }
+
+    /** The same stairs with the two moves changed over. */
+    private static void onlyTheFirstPlan() {
+        ParityGame game = new ParityGame();
+        for (int p = 0; p < 8; p++) {
+            game.set(p, 0, p == 7 ? 0 : 1, Inputs.both(p == 7 ? 7 : p + 1, p == 7 ? 0 : p));
+        }
+        checkWinners("stairs by first moves", game, 255);
+        checks.same("stairs by first moves: firstPlan(0)", game.firstPlan(0), 0);
+        checks.same("stairs by first moves: plans(0)", game.plans(0), 1);
     }
 
     private static void otherBitsDoNotCount() {
@@ -166,7 +172,7 @@ final class AnswersTest {
 
     private static void playersRefused() {
         ParityGame game = new ParityGame();
-        for (int player : NOT_PLAYERS) {
+        for (int player : Inputs.NOT_PLAYERS) {
             checks.same("good(" + player + ", 0)", game.good(player, 0), false);
             checks.same("plans(" + player + ")", game.plans(player), -3);
             checks.same("firstPlan(" + player + ")", game.firstPlan(player), -3);
@@ -176,9 +182,9 @@ final class AnswersTest {
     /** Player 1 at 0 goes to 1 or 2; player 0 at 1 to 3 or 1; player 0 at 2 to 4 or 1; 3, 4 stay. */
     private static void forcing() {
         ParityGame game = new ParityGame();
-        game.set(0, 1, 0, both(1, 2));
-        game.set(1, 0, 0, both(3, 1));
-        game.set(2, 0, 0, both(4, 1));
+        game.set(0, 1, 0, Inputs.both(1, 2));
+        game.set(1, 0, 0, Inputs.both(3, 1));
+        game.set(2, 0, 0, Inputs.both(4, 1));
         int[] due = {1 | 2 | 8, 2 | 8, 2 | 4 | 8 | 16, 8, 16, 32, 64, 128};
         for (int a = 0; a < 8; a++) {
             for (int b = 0; b < 8; b++) {
@@ -196,8 +202,8 @@ final class AnswersTest {
         ParityGame down = new ParityGame();
         ParityGame up = new ParityGame();
         for (int p = 0; p < 8; p++) {
-            down.set(p, p % 2, 0, both((p + 7) % 8, (p + 7) % 8));
-            up.set(p, p % 2, 0, both((p + 1) % 8, (p + 1) % 8));
+            down.set(p, p % 2, 0, Inputs.both((p + 7) % 8, (p + 7) % 8));
+            up.set(p, p % 2, 0, Inputs.both((p + 1) % 8, (p + 1) % 8));
         }
         for (int a = 0; a < 8; a++) {
             for (int b = 0; b < 8; b++) {
@@ -209,7 +215,7 @@ final class AnswersTest {
 
     private static void forcingRefuses() {
         ParityGame game = new ParityGame();
-        for (int position : NOT_POSITIONS) {
+        for (int position : Inputs.NOT_POSITIONS) {
             checks.same("canForce(" + position + ", 0)", game.canForce(position, 0), false);
             checks.same("canForce(0, " + position + ")", game.canForce(0, position), false);
             checks.same("canForce twice " + position, game.canForce(position, position), false);
@@ -230,10 +236,10 @@ final class AnswersTest {
     private static void all8Contested() {
         ParityGame game = new ParityGame();
         for (int p = 0; p < 6; p++) {
-            game.set(p, p % 2, 0, both(6, 7));
+            game.set(p, p % 2, 0, Inputs.both(6, 7));
         }
-        game.set(6, 0, 0, both(6, 7));
-        game.set(7, 1, 1, both(7, 6));
+        game.set(6, 0, 0, Inputs.both(6, 7));
+        game.set(7, 1, 1, Inputs.both(7, 6));
         checks.same("all contested", game.contested(), 8);
     }
 

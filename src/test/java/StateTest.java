@@ -1,9 +1,6 @@
 /** Promises 1 to 5: what a position is, and the calls that change it. */
 final class StateTest {
     private static final Checks checks = new Checks();
-    private static final int[] NOT_POSITIONS = {-1, 8, 9, 32, 40, -8, Integer.MAX_VALUE, Integer.MIN_VALUE};
-    private static final int[] NOT_PLAYERS = {-1, 2, 3, 256, Integer.MAX_VALUE, Integer.MIN_VALUE};
-    private static final int[] NOT_COLOURS = {-1, 6, 7, 256, Integer.MAX_VALUE, Integer.MIN_VALUE};
 
     public static void main(String[] args) {
         newObject();
@@ -17,10 +14,6 @@ final class StateTest {
         handRefuses();
         mirrorChanges();
         checks.end();
-    }
-
-    private static int both(int first, int second) {
-        return first | second << 3;
     }
 
     private static int playerOf(ParityGame game, int position) {
@@ -45,7 +38,7 @@ final class StateTest {
         // The other positions become dead ends, and this one player 0's, so that only its moves count.
         for (int p = 0; p < 8; p++) {
             if (p != position) {
-                game.set(p, 0, 0, both(p, p));
+                game.set(p, 0, 0, Inputs.both(p, p));
             }
         }
         if (player == 1) {
@@ -91,7 +84,7 @@ final class StateTest {
     private static void objectsAreApart() {
         ParityGame one = new ParityGame();
         ParityGame other = new ParityGame();
-        one.set(0, 1, 5, both(1, 2));
+        one.set(0, 1, 5, Inputs.both(1, 2));
         checkPosition("another object", other, 0, 0, 0);
         checks.same("another object: region", other.region(), 255);
     }
@@ -102,7 +95,7 @@ final class StateTest {
                 for (int colour = 0; colour < 6; colour++) {
                     ParityGame game = new ParityGame();
                     game.set(p, 1 - player, 5 - colour, 0);
-                    checks.same("set", game.set(p, player, colour, both(p, p)), 0);
+                    checks.same("set", game.set(p, player, colour, Inputs.both(p, p)), 0);
                     checkPosition("set", game, p, player, colour);
                     checkPosition("set leaves the others", game, (p + 1) % 8, 0, 0);
                     checks.same("set: winner", game.winner(p), colour % 2);
@@ -128,18 +121,18 @@ final class StateTest {
 
     private static void setRefuses() {
         ParityGame game = new ParityGame();
-        game.set(3, 1, 4, both(5, 6));
-        for (int position : NOT_POSITIONS) {
+        game.set(3, 1, 4, Inputs.both(5, 6));
+        for (int position : Inputs.NOT_POSITIONS) {
             checks.same("set bad position", game.set(position, 0, 0, 0), -1);
             checks.same("set all bad", game.set(position, 2, 6, 0), -1);
             checks.same("set bad position and player", game.set(position, -1, 0, 0), -1);
             checks.same("set bad position and colour", game.set(position, 0, -1, 0), -1);
         }
-        for (int player : NOT_PLAYERS) {
+        for (int player : Inputs.NOT_PLAYERS) {
             checks.same("set bad player", game.set(3, player, 0, 0), -3);
             checks.same("set bad player and colour", game.set(3, player, 6, 0), -3);
         }
-        for (int colour : NOT_COLOURS) {
+        for (int colour : Inputs.NOT_COLOURS) {
             checks.same("set bad colour", game.set(3, 0, colour, 0), -2);
         }
         for (int p = 0; p < 8; p++) {
@@ -150,7 +143,7 @@ final class StateTest {
 
     private static void paintChanges() {
         ParityGame game = new ParityGame();
-        game.set(6, 1, 2, both(1, 4));
+        game.set(6, 1, 2, Inputs.both(1, 4));
         int old = 2;
         for (int colour = 0; colour < 6; colour++) {
             checks.same("paint", game.paint(6, colour), old);
@@ -167,11 +160,11 @@ final class StateTest {
         ParityGame game = new ParityGame();
         game.paint(0, 3);
         game.paint(7, 4);
-        for (int position : NOT_POSITIONS) {
+        for (int position : Inputs.NOT_POSITIONS) {
             checks.same("paint bad position", game.paint(position, 0), -1);
             checks.same("paint both bad", game.paint(position, 6), -1);
         }
-        for (int colour : NOT_COLOURS) {
+        for (int colour : Inputs.NOT_COLOURS) {
             checks.same("paint bad colour", game.paint(7, colour), -2);
         }
         checkPosition("refused paint", game, 0, 0, 3);
@@ -181,7 +174,7 @@ final class StateTest {
     private static void handChanges() {
         for (int p = 0; p < 8; p++) {
             ParityGame game = new ParityGame();
-            game.set(p, 0, 3, both((p + 1) % 8, (p + 2) % 8));
+            game.set(p, 0, 3, Inputs.both((p + 1) % 8, (p + 2) % 8));
             checks.same("hand to 1", game.hand(p), 1);
             checks.same("player 1 may go elsewhere", game.canForce(p, (p + 1) % 8), false);
             checks.same("hand to 0", game.hand(p), 0);
@@ -197,7 +190,7 @@ final class StateTest {
     private static void handRefuses() {
         ParityGame game = new ParityGame();
         game.hand(5);
-        for (int position : NOT_POSITIONS) {
+        for (int position : Inputs.NOT_POSITIONS) {
             checks.same("hand bad position", game.hand(position), -1);
         }
         for (int p = 0; p < 8; p++) {
@@ -208,7 +201,7 @@ final class StateTest {
     private static void mirrorChanges() {
         ParityGame game = new ParityGame();
         for (int p = 0; p < 8; p++) {
-            game.set(p, p / 2 % 2, p % 6, both((p + 3) % 8, (p + 5) % 8));
+            game.set(p, p / 2 % 2, p % 6, Inputs.both((p + 3) % 8, (p + 5) % 8));
         }
         for (int times = 1; times <= 6; times++) {
             game.mirror();
@@ -218,7 +211,7 @@ final class StateTest {
         }
         for (int p = 0; p < 8; p++) {
             ParityGame again = new ParityGame();
-            again.set(p, 1, 5, both((p + 3) % 8, (p + 5) % 8));
+            again.set(p, 1, 5, Inputs.both((p + 3) % 8, (p + 5) % 8));
             again.mirror();
             checkPosition("mirror", again, p, 0, 0);
             checkPosition("mirror", again, (p + 1) % 8, 1, 1);
