@@ -225,16 +225,13 @@ public final class ParityGame {
 
     private void letPassThrough(int colour) {
         for (int middle = 0; middle < POSITIONS; middle++) {
-            if (colours[middle] == colour) {
-                joinAt(middle);
+            if (colours[middle] != colour) {
+                continue;
             }
-        }
-    }
-
-    private void joinAt(int middle) {
-        for (int p = 0; p < POSITIONS; p++) {
-            if (contains(reach[p], middle)) {
-                reach[p] |= reach[middle];
+            for (int p = 0; p < POSITIONS; p++) {
+                if (contains(reach[p], middle)) {
+                    reach[p] |= reach[middle];
+                }
             }
         }
     }
