@@ -3,6 +3,7 @@ final class AnswersTest {
     private static final Checks checks = new Checks();
 
     public static void main(String[] args) {
+        exampleOfTheReadme();
         greatestColourDecides();
         winningMayNeedToLeave();
         lettingGoIsNotWinning();
@@ -10,6 +11,21 @@ final class AnswersTest {
         forcing();
         contestedPositions();
         checks.end();
+    }
+
+    /** The game in README.md, call by call. */
+    private static void exampleOfTheReadme() {
+        ParityGame game = new ParityGame();
+        checks.same("README: set(0, 1, 3, 17)", game.set(0, 1, 3, 1 | 2 << 3), 0);
+        checks.same("README: set(1, 0, 2, 8)", game.set(1, 0, 2, 0 | 1 << 3), 0);
+        checks.same("README: region()", game.region(), 255);
+        checks.same("README: winner(1)", game.winner(1), 0);
+        checks.same("README: firstPlan(0)", game.firstPlan(0), 2);
+        checks.same("README: good(0, 0)", game.good(0, 0), false);
+        checks.same("README: canForce(0, 1)", game.canForce(0, 1), false);
+        checks.same("README: contested()", game.contested(), 1);
+        checks.same("README: hand(1)", game.hand(1), 1);
+        checks.same("README: region() then", game.region(), 252);
     }
 
     private static void checkWinners(String what, ParityGame game, int region) {

@@ -87,6 +87,7 @@ final class FaceTest {
             checks.same(field + " is of an allowed type", isNumber, true);
             if (isStatic) {
                 checks.same(field + " is a constant", Modifier.isFinal(field.getModifiers()), true);
+                checks.same(field + " is of int or long", type == int.class || type == long.class, true);
             }
         }
     }

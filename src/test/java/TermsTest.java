@@ -15,7 +15,9 @@ final class TermsTest {
         positionsOutsideAreRefused();
         answersChangeNothing();
         refusedAnswersChangeNothing();
+        answersFollowEachChange();
         all512CallsOfOneKindAnswer();
+        all511ChangesAreMade();
         all512CallsOfMixedKindsAnswer();
         laterCallsEnd();
         checks.end();
@@ -154,6 +156,33 @@ final class TermsTest {
         }
     }
 
+    /** What was asked ahead of a change does not count: each answer is for the game as it stands. */
+    private static void answersFollowEachChange() {
+        for (int p = 0; p < 8; p++) {
+            int at = p;
+            checkFollows("hand(" + p + ")", game -> game.hand(at), due -> due.hand(at));
+            for (int colour = 0; colour < 6; colour++) {
+                int given = colour;
+                int moves = Inputs.both((at + colour) % 8, at);
+                checkFollows("paint(" + p + ", " + colour + ")", game -> game.paint(at, given),
+                    due -> due.paint(at, given));
+                checkFollows("set(" + p + ", 0, " + colour + ", " + moves + ")",
+                    game -> game.set(at, 0, given, moves), due -> due.set(at, 0, given, moves));
+            }
+        }
+        checkFollows("mirror()", ParityGame::mirror, Reference::mirror);
+    }
+
+    /** 281 calls in all. */
+    private static void checkFollows(String what, Consumer<ParityGame> change, Consumer<Reference> changeDue) {
+        ParityGame game = Games.mixed();
+        Reference due = Games.mixedReference();
+        Reader.checkAnswers(checks, "ahead of " + what, game, due);
+        change.accept(game);
+        changeDue.accept(due);
+        Reader.checkAnswers(checks, "asked before and after " + what, game, due);
+    }
+
     private record Call(String name, ToIntFunction<ParityGame> game, ToIntFunction<Reference> due) {
     }
 
@@ -173,23 +202,54 @@ final class TermsTest {
             due.mirror();
             return 0;
         }),
-        new Call("winner", game -> game.winner(4), due -> due.winner(4)),
+        new Call("winner", game -> game.winner(5), due -> due.winner(5)),
         new Call("region", ParityGame::region, Reference::region),
         new Call("good", game -> number(game.good(0, 17)), due -> number(due.good(0, 17))),
         new Call("plans", game -> game.plans(0), due -> due.plans(0)),
-        new Call("firstPlan", game -> game.firstPlan(1), due -> due.firstPlan(1)),
-        new Call("canForce", game -> number(game.canForce(7, 6)), due -> number(due.canForce(7, 6))),
+        new Call("plans of 1", game -> game.plans(1), due -> due.plans(1)),
+        new Call("firstPlan", game -> game.firstPlan(0), due -> due.firstPlan(0)),
+        new Call("firstPlan of 1", game -> game.firstPlan(1), due -> due.firstPlan(1)),
+        new Call("canForce", game -> number(game.canForce(4, 1)), due -> number(due.canForce(4, 1))),
+        new Call("canForce to itself", game -> number(game.canForce(3, 3)), due -> number(due.canForce(3, 3))),
         new Call("contested", ParityGame::contested, Reference::contested),
+    };
+
+    /** After these, each kind that asks has an answer that is neither 0 nor false, but for player 1's first plan. */
+    private static final Call[] BEGINNING = {
+        new Call("set", game -> game.set(4, 0, 3, Inputs.both(4, 1)), due -> due.set(4, 0, 3, Inputs.both(4, 1))),
+        new Call("paint", game -> game.paint(5, 1), due -> due.paint(5, 1)),
     };
 
     /** "An object is used for at most 512 calls after it has been made": so each of 512 is answered. */
     private static void all512CallsOfOneKindAnswer() {
         for (Call kind : CALLS) {
+            for (int begun = 0; begun <= BEGINNING.length; begun++) {
+                ParityGame game = new ParityGame();
+                Reference due = new Reference();
+                for (int call = 1; call <= 512; call++) {
+                    check(call, call <= begun ? BEGINNING[call - 1] : kind, game, due);
+                }
+            }
+        }
+    }
+
+    /** The same sentence: 511 changes that answer nothing, or always the same, and then what they have done. */
+    private static void all511ChangesAreMade() {
+        for (Call last : CALLS) {
             ParityGame game = new ParityGame();
             Reference due = new Reference();
-            for (int call = 1; call <= 512; call++) {
-                check(call, kind, game, due);
+            for (int call = 1; call < 512; call++) {
+                game.mirror();
+                due.mirror();
             }
+            check(512, last, game, due);
+        }
+        for (int p = 0; p < 8; p++) {
+            ParityGame game = new ParityGame();
+            for (int call = 1; call < 512; call++) {
+                game.set(p, 0, call % 6, Inputs.both(p, p));
+            }
+            checks.same("call 512, paint after 511 calls of set", game.paint(p, 0), 511 % 6);
         }
     }
 
